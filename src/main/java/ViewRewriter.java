@@ -56,6 +56,7 @@ public final class ViewRewriter {
     private int head1 = 1;
 
     // What follows is working space: each question fills it anew and leaves nothing to the next one.
+    // Links are what the atoms of an image may land on, a bit for each right term.
     private final int[] links = new int[LINK_WORDS];
     private final int[] image = new int[VARIABLES];
     private final int[] least = new int[VARIABLES];
@@ -206,8 +207,6 @@ public final class ViewRewriter {
         return fewest;
     }
 
-    // ---- ranges ----
-
     private static int clamp(int number, int most) {
         if (number < 1) {
             return 1;
@@ -262,7 +261,6 @@ public final class ViewRewriter {
         }
     }
 
-    /** The slot of the triple in the section, or NONE. */
     private int place(int section, int k, int x, int y) {
         int start = section * SLOTS;
         int end = start + counts[section];
@@ -273,8 +271,6 @@ public final class ViewRewriter {
         }
         return NONE;
     }
-
-    // ---- links: the atoms that an image may land on ----
 
     private void unlinkAll() {
         for (int word = 0; word < LINK_WORDS; word++) {
@@ -290,7 +286,6 @@ public final class ViewRewriter {
         return ((links[kind * TERMS + left] >> right) & 1) == 1;
     }
 
-    /** Links the facts of the section's triples whose view is in the mask. */
     private void linkFactsOfSection(int section, int mask) {
         int start = section * SLOTS;
         int count = counts[section];
@@ -302,7 +297,7 @@ public final class ViewRewriter {
         }
     }
 
-    /** Links the facts of one triple (view, p, q); its owner number keeps its unknowns apart from all others. */
+    // The owner's number keeps the unknowns of this triple (view,p,q) apart from those of all others.
     private void linkFacts(int view, int p, int q, int owner) {
         int start = (VIEWS + view) * SLOTS;
         int end = start + counts[VIEWS + view];
@@ -331,7 +326,8 @@ public final class ViewRewriter {
         }
     }
 
-    /** Links every pair that the view gives when the query's atoms are taken as its data. */
+    // c and d are chosen for each candidate atom by itself, so the pairs that a view gives over the query
+    // can be found before any image of the candidate's variables is tried.
     private void linkViewOverQuery(int view) {
         for (int p = 0; p < QUERY_VARIABLES; p++) {
             for (int q = 0; q < QUERY_VARIABLES; q++) {
@@ -370,8 +366,6 @@ public final class ViewRewriter {
         return true;
     }
 
-    // ---- images: where the variables of the query or the candidate go ----
-
     private boolean queryMatches(int p, int q) {
         // Trying terms that no fact has does no harm: only a variable without atoms can rest on one,
         // and that variable could as well go to a term that there is.
@@ -382,6 +376,7 @@ public final class ViewRewriter {
     }
 
     private boolean candidateGives(int a, int b, int terms) {
+        // Pinning one variable twice would lose the first of the two terms.
         if (head0 == head1 && a != b) {
             return false;
         }
@@ -403,7 +398,6 @@ public final class ViewRewriter {
         greatest[variable] = term;
     }
 
-    /** Whether the variables can go to terms in their ranges so that every atom of the section lands on a link. */
     private boolean hasImage(int section) {
         for (int a = least[0]; a <= greatest[0]; a++) {
             image[0] = a;
@@ -417,8 +411,20 @@ public final class ViewRewriter {
                 }
                 for (int c = least[2]; c <= greatest[2]; c++) {
                     image[2] = c;
-                    if (newestLand(section, 2) && hasImageOfRest(section)) {
-                        return true;
+                    if (!newestLand(section, 2)) {
+                        continue;
+                    }
+                    for (int d = least[3]; d <= greatest[3]; d++) {
+                        image[3] = d;
+                        if (!newestLand(section, 3)) {
+                            continue;
+                        }
+                        for (int e = least[4]; e <= greatest[4]; e++) {
+                            image[4] = e;
+                            if (newestLand(section, 4)) {
+                                return true;
+                            }
+                        }
                     }
                 }
             }
@@ -426,24 +432,8 @@ public final class ViewRewriter {
         return false;
     }
 
-    private boolean hasImageOfRest(int section) {
-        for (int d = least[3]; d <= greatest[3]; d++) {
-            image[3] = d;
-            if (!newestLand(section, 3)) {
-                continue;
-            }
-            for (int e = least[4]; e <= greatest[4]; e++) {
-                image[4] = e;
-                if (newestLand(section, 4)) {
-                    return true;
-                }
-            }
-        }
-        return false;
-    }
-
-    // Looking at an atom as soon as both its variables have images cuts the search short early.
-    /** Whether the atoms whose greater variable is the newest one land on links. */
+    // Images are given in the order of the variables, so an atom can be looked at as soon as its greater
+    // variable is the newest one: that ends most of the search early, and looks at no atom twice.
     private boolean newestLand(int section, int newest) {
         int start = section * SLOTS;
         int end = start + counts[section];
@@ -458,7 +448,6 @@ public final class ViewRewriter {
         return true;
     }
 
-    /** How many different query atoms the image reaches, or NONE if it leaves the query. */
     private int atomsReached() {
         int seen = 0;
         int reached = 0;

@@ -7,6 +7,7 @@ public final class Promise10Test {
         wrongInputs();
         joins();
         heads();
+        headAwayFromZero();
         otherPartsPlayNone();
         DUE.finish();
     }
@@ -85,6 +86,20 @@ public final class Promise10Test {
         x.head(3, 0);
         DUE.is("head (3,0), 0 is free", x.candidateHas(0, 3), 1);
         DUE.is("head (3,0), 3 is not", x.candidateHas(1, 3), 0);
+    }
+
+    /** Variables 0 and 1 are bound by the head only while they stand in it. */
+    private static void headAwayFromZero() {
+        ViewRewriter x = new ViewRewriter(1, 1, 4, 8);
+        State.fill(x, 1, 0, 0, 1, 0, 1, 3);
+        State.fill(x, 2, 0, 2, 3, 0, 3, 1);
+        DUE.is("head (0,1)", x.candidateHas(0, 0), 0);
+        DUE.is("head (0,1)", x.candidateHas(2, 3), 1);
+        DUE.is("head (0,1), no second row", x.candidateHas(3, 1), 0);
+        DUE.is("head (0,1)", x.candidateHas(0, 0), 0);
+        x.head(3, 4);
+        DUE.is("head (3,4), 0 and 1 are free", x.candidateHas(1, 0), 1);
+        DUE.is("head (3,4), no such end", x.candidateHas(3, 0), 0);
     }
 
     private static void otherPartsPlayNone() {

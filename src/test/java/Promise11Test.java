@@ -7,6 +7,7 @@ public final class Promise11Test {
         expansion();
         unknownsAreApart();
         heads();
+        eachView();
         rowsPlayNoPart();
         DUE.finish();
     }
@@ -86,6 +87,19 @@ public final class Promise11Test {
         for (int h0 = 0; h0 < 5; h0++) {
             x.head(h0, h0);
             DUE.is("head not in any query atom, " + h0, x.sound(), 1);
+        }
+    }
+
+    private static void eachView() {
+        for (int view = 0; view < 3; view++) {
+            ViewRewriter x = new ViewRewriter(3, 3, 4, 8);
+            State.fill(x, 0, 2, 0, 1);
+            State.fill(x, 1, view, 0, 1);
+            for (int body = 0; body < 3; body++) {
+                State.fill(x, 3 + body, 2, 0, 1);
+                DUE.is("an atom of view " + view + ", body " + body, x.sound(), body == view ? 1 : 0);
+                x.clear(3 + body);
+            }
         }
     }
 

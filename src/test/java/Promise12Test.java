@@ -7,6 +7,7 @@ public final class Promise12Test {
         oneHead();
         hiddenVariables();
         images();
+        eachView();
         rowsPlayNoPart();
         DUE.finish();
     }
@@ -107,6 +108,21 @@ public final class Promise12Test {
         DUE.is("half of the head bound", x.complete(), 1);
         x.head(2, 3);
         DUE.is("the wrong half bound", x.complete(), 0);
+    }
+
+    private static void eachView() {
+        for (int view = 0; view < 3; view++) {
+            ViewRewriter x = new ViewRewriter(3, 3, 4, 8);
+            State.fill(x, 0, 2, 0, 1);
+            State.fill(x, 1, view, 0, 1);
+            for (int body = 0; body < 3; body++) {
+                State.fill(x, 3 + body, 2, 1, 0);
+                DUE.is("an atom of view " + view + ", body " + body, x.complete(), body == view ? 0 : 1);
+                x.clear(3 + body);
+                State.fill(x, 3 + body, 2, 0, 1);
+                DUE.is("an atom of view " + view + ", body " + body, x.complete(), 1);
+            }
+        }
     }
 
     private static void rowsPlayNoPart() {

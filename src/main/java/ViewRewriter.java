@@ -399,29 +399,24 @@ public final class ViewRewriter {
     }
 
     private boolean hasImage(int section) {
-        for (int a = least[0]; a <= greatest[0]; a++) {
-            image[0] = a;
-            if (!newestLand(section, 0)) {
+        for (int a = 0; a < TERMS; a++) {
+            if (!canGo(section, 0, a)) {
                 continue;
             }
-            for (int b = least[1]; b <= greatest[1]; b++) {
-                image[1] = b;
-                if (!newestLand(section, 1)) {
+            for (int b = 0; b < TERMS; b++) {
+                if (!canGo(section, 1, b)) {
                     continue;
                 }
-                for (int c = least[2]; c <= greatest[2]; c++) {
-                    image[2] = c;
-                    if (!newestLand(section, 2)) {
+                for (int c = 0; c < TERMS; c++) {
+                    if (!canGo(section, 2, c)) {
                         continue;
                     }
-                    for (int d = least[3]; d <= greatest[3]; d++) {
-                        image[3] = d;
-                        if (!newestLand(section, 3)) {
+                    for (int d = 0; d < TERMS; d++) {
+                        if (!canGo(section, 3, d)) {
                             continue;
                         }
-                        for (int e = least[4]; e <= greatest[4]; e++) {
-                            image[4] = e;
-                            if (newestLand(section, 4)) {
+                        for (int e = 0; e < TERMS; e++) {
+                            if (canGo(section, 4, e)) {
                                 return true;
                             }
                         }
@@ -434,7 +429,11 @@ public final class ViewRewriter {
 
     // Images are given in the order of the variables, so an atom can be looked at as soon as its greater
     // variable is the newest one: that ends most of the search early, and looks at no atom twice.
-    private boolean newestLand(int section, int newest) {
+    private boolean canGo(int section, int newest, int term) {
+        if (term < least[newest] || term > greatest[newest]) {
+            return false;
+        }
+        image[newest] = term;
         int start = section * SLOTS;
         int end = start + counts[section];
         for (int slot = start; slot < end; slot++) {

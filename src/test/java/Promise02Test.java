@@ -1,100 +1,174 @@
-/** Promise 2: put, its six cases and their order. */
+import java.util.List;
+
+/** Promise 2: adding a triple. */
 public final class Promise02Test {
-    private static final int[] FAR = {Integer.MIN_VALUE, -100, -1, 100, Integer.MAX_VALUE};
     private static final Due DUE = new Due();
 
     public static void main(String[] args) {
-        wrongInputs();
-        limits();
-        otherSectionsStay();
+        order();
+        refusals();
+        thereAlready();
+        full();
+        added();
+        rowsTogether();
+        equalEnds();
+        nothingElse();
         DUE.finish();
     }
 
-    private static void bad(ViewRewriter x, int section, int k, int a, int b) {
-        String before = State.of(x);
-        DUE.is("put(" + section + "," + k + "," + a + "," + b + ")", x.put(section, k, a, b), -1);
-        DUE.holds("a bad put changes nothing", State.of(x).equals(before));
-    }
-
-    private static void wrongInputs() {
-        ViewRewriter x = new ViewRewriter(1, 2, 3, 2);
-        for (int far : FAR) {
-            bad(x, far, 0, 0, 0);
-            for (int section = 0; section <= 4; section++) {
-                bad(x, section, far, 0, 0);
-                bad(x, section, 0, far, 0);
-                bad(x, section, 0, 0, far);
-            }
-        }
-        bad(x, 5, 0, 0, 0);
-        bad(x, 0, 1, 0, 0);
-        bad(x, 1, 2, 0, 0);
-        bad(x, 2, 2, 0, 0);
-        bad(x, 3, 1, 0, 0);
-        bad(x, 4, 1, 0, 0);
-        bad(x, 0, 0, 5, 0);
-        bad(x, 0, 0, 0, 5);
-        bad(x, 1, 0, 5, 0);
-        bad(x, 1, 0, 0, 5);
-        bad(x, 2, 0, 3, 0);
-        bad(x, 2, 0, 0, 3);
-        bad(x, 3, 0, 4, 0);
-        bad(x, 4, 0, 0, 4);
-        State.fill(x, 2, 0, 0, 0, 1, 2, 2);
-        bad(x, 2, 0, 3, 0);
-        bad(x, 2, 2, 0, 0);
-    }
-
-    /** Fills the section with (kind, 0, 0), (kind, 0, 1), ... to its limit and one further. */
-    private static void fillsAt(ViewRewriter x, int section, int kind, int width, int limit) {
-        String name = "section " + section + " triple ";
-        for (int i = 0; i < limit; i++) {
-            DUE.is(name + i, x.put(section, kind, i / width, i % width), 1);
-            DUE.is(name + i + " again", x.put(section, kind, i / width, i % width), 0);
-            DUE.is(name + i + " size", x.size(section), i + 1);
-        }
-        String full = State.of(x);
-        DUE.is(name + "too many", x.put(section, kind, limit / width, limit % width), -2);
-        DUE.is(name + "first again when full", x.put(section, kind, 0, 0), 0);
-        DUE.is(name + "last again when full", x.put(section, kind, (limit - 1) / width, (limit - 1) % width), 0);
-        DUE.is(name + "bad when full", x.put(section, kind, 0, width), -1);
-        DUE.holds(name + "nothing changes when full", State.of(x).equals(full));
-    }
-
-    private static void limits() {
-        ViewRewriter x = new ViewRewriter(3, 3, 4, 8);
-        fillsAt(x, 0, 2, 5, 4);
-        fillsAt(x, 1, 2, 5, 4);
-        fillsAt(x, 2, 2, 4, 8);
-        fillsAt(x, 3, 2, 4, 3);
-        fillsAt(x, 4, 1, 4, 3);
-        fillsAt(x, 5, 0, 4, 3);
-        DUE.is("a row of another view when full", x.put(2, 0, 0, 0), -2);
-        for (int rowLimit = 1; rowLimit <= 8; rowLimit++) {
-            fillsAt(new ViewRewriter(1, 1, 4, rowLimit), 2, 0, 4, rowLimit);
-        }
-        ViewRewriter y = new ViewRewriter(3, 3, 4, 3);
-        State.fill(y, 2, 0, 1, 1, 1, 1, 1, 2, 1, 1);
-        DUE.is("rows of all views count together", y.put(2, 0, 1, 2), -2);
-        DUE.is("room again after a drop", y.drop(2, 1, 1, 1), 1);
-        DUE.is("put after the drop", y.put(2, 0, 1, 2), 1);
-        DUE.is("full again", y.put(2, 0, 1, 3), -2);
-    }
-
-    private static void otherSectionsStay() {
-        ViewRewriter x = new ViewRewriter(3, 3, 4, 8);
-        x.head(4, 2);
+    private static void order() {
+        DUE.says("The first of these that applies decides the answer:");
+        new Refusals(DUE, "put", ViewRewriter::put).whenFull();
+        ViewRewriter r = Scene.full();
         for (int section = 0; section <= 5; section++) {
-            DUE.is("put", x.put(section, 2, 3, 1), 1);
-            for (int other = 0; other <= 5; other++) {
-                DUE.is("size of " + other + " after put in " + section, x.size(other), other <= section ? 1 : 0);
-                DUE.is("has in " + other, x.has(other, 2, 3, 1), other <= section ? 1 : 0);
-                DUE.is("has turned in " + other, x.has(other, 2, 1, 3), 0);
+            int[] t = Scene.triples(section);
+            DUE.is("there already and full, section " + section, r.put(section, t[0], t[1], t[2]), 0);
+            DUE.is("not there and full, section " + section, r.put(section, 0, 1, 1), -2);
+        }
+        DUE.is("no section, and k, x and y wrong too", r.put(6, 9, 9, 9), -1);
+        DUE.is("k wrong, and x and y too", r.put(0, 9, 9, 9), -1);
+    }
+
+    private static void refusals() {
+        Refusals put = new Refusals(DUE, "put", ViewRewriter::put);
+        DUE.says("BAD if section is not 0..2+views.");
+        put.sections();
+        DUE.says("BAD if k is out of range for the section: it must be a relation for QUERY and for view bodies, a view for"
+                + " CANDIDATE and ROWS.");
+        put.kinds();
+        DUE.says("BAD if x or y is out of range for the section: 0..4 for QUERY and CANDIDATE, a value for ROWS, 0..3 for view"
+                + " bodies.");
+        put.terms();
+        put.noOthers();
+    }
+
+    private static void thereAlready() {
+        DUE.says("NO if the triple is there already, also when the section is full. Nothing changes.");
+        for (int section = 0; section <= 5; section++) {
+            for (int amount = 1; amount <= Scene.limit(section); amount++) {
+                ViewRewriter r = Scene.empty();
+                r.head(4, 3);
+                Scene.fill(r, section, amount);
+                String before = State.of(r);
+                int[] t = Scene.triples(section);
+                for (int i = 0; i < amount; i++) {
+                    DUE.is("triple " + i + " again, " + amount + " in section " + section,
+                            r.put(section, t[3 * i], t[3 * i + 1], t[3 * i + 2]), 0);
+                }
+                DUE.is("size of section " + section, r.size(section), amount);
+                DUE.unchanged("puts of what is there", r, before);
             }
         }
-        DUE.is("head after put", x.headAt(0), 4);
-        DUE.is("head after put", x.headAt(1), 2);
-        DUE.is("x = y", x.put(0, 0, 4, 4), 1);
-        DUE.is("another kind is another triple", x.put(0, 1, 4, 4), 1);
+    }
+
+    private static void full() {
+        DUE.says("FULL if the section already holds its greatest number of triples: 4 for QUERY, 4 for CANDIDATE, rowLimit for"
+                + " ROWS, 3 for each view body. Nothing changes.");
+        for (int rowLimit = 1; rowLimit <= 8; rowLimit++) {
+            Shape shape = new Shape(3, 3, 4, rowLimit);
+            for (int section = 0; section <= 5; section++) {
+                ViewRewriter r = shape.make();
+                List<int[]> triples = shape.triples(section);
+                for (int i = 0; i < shape.limit(section); i++) {
+                    int[] t = triples.get(5 * i);
+                    DUE.is("triple " + i + " of section " + section, r.put(section, t[0], t[1], t[2]), 1);
+                }
+                String before = State.of(r);
+                for (int[] t : triples) {
+                    if (r.has(section, t[0], t[1], t[2]) == 0) {
+                        DUE.is("one too many in section " + section, r.put(section, t[0], t[1], t[2]), -2);
+                    }
+                }
+                DUE.is("size of section " + section, r.size(section), shape.limit(section));
+                DUE.unchanged("a put in the full section " + section, r, before);
+            }
+        }
+    }
+
+    private static void added() {
+        DUE.says("Otherwise the triple is added and the answer is YES.");
+        Shape shape = new Shape(3, 3, 4, 8);
+        for (int section = 0; section <= 5; section++) {
+            for (int[] t : shape.triples(section)) {
+                ViewRewriter r = shape.make();
+                String name = "put(" + section + "," + t[0] + "," + t[1] + "," + t[2] + ")";
+                DUE.is(name, r.put(section, t[0], t[1], t[2]), 1);
+                DUE.is("size after " + name, r.size(section), 1);
+                for (int[] u : shape.triples(section)) {
+                    boolean same = t[0] == u[0] && t[1] == u[1] && t[2] == u[2];
+                    DUE.is("has " + u[0] + "," + u[1] + "," + u[2] + " after " + name,
+                            r.has(section, u[0], u[1], u[2]), same ? 1 : 0);
+                }
+            }
+        }
+        for (int section = 0; section <= 5; section++) {
+            ViewRewriter r = Scene.full();
+            int[] t = Scene.triples(section);
+            for (int i = 0; i < t.length; i += 3) {
+                r.drop(section, t[i], t[i + 1], t[i + 2]);
+                DUE.is("room again after a drop", r.put(section, 0, 1, 1), 1);
+                DUE.is("full again", r.put(section, t[i], t[i + 1], t[i + 2]), -2);
+                r.drop(section, 0, 1, 1);
+                DUE.is("the first one back", r.put(section, t[i], t[i + 1], t[i + 2]), 1);
+            }
+        }
+    }
+
+    private static void rowsTogether() {
+        DUE.says("The limit of ROWS is for the rows of all views together; each view body has its own limit.");
+        for (int rowLimit = 1; rowLimit <= 8; rowLimit++) {
+            ViewRewriter r = new ViewRewriter(3, 3, 4, rowLimit);
+            for (int i = 0; i < 12; i++) {
+                DUE.is("row " + i + " of limit " + rowLimit, r.put(2, i % 3, i / 4, i % 4), i < rowLimit ? 1 : -2);
+            }
+        }
+        ViewRewriter r = new ViewRewriter(3, 3, 4, 1);
+        for (int i = 0; i < 4; i++) {
+            for (int view = 0; view < 3; view++) {
+                DUE.is("atom " + i + " of view " + view, r.put(3 + view, view, i, i), i < 3 ? 1 : -2);
+            }
+        }
+    }
+
+    private static void equalEnds() {
+        DUE.says("x = y is allowed.");
+        Shape shape = new Shape(3, 3, 4, 8);
+        for (int section = 0; section <= 5; section++) {
+            for (int x = 0; x < shape.terms(section); x++) {
+                ViewRewriter r = shape.make();
+                DUE.is("put(" + section + ",1," + x + "," + x + ")", r.put(section, 1, x, x), 1);
+                DUE.is("has(" + section + ",1," + x + "," + x + ")", r.has(section, 1, x, x), 1);
+            }
+        }
+    }
+
+    private static void nothingElse() {
+        DUE.says("No other section changes, and the candidate's head does not change.");
+        for (int section = 0; section <= 5; section++) {
+            ViewRewriter r = new ViewRewriter(3, 3, 4, 8);
+            r.head(4, 2);
+            for (int i = 0; i < Scene.limit(section); i++) {
+                State.fill(r, section, 2, i / 4, i % 4);
+                for (int other = 0; other <= 5; other++) {
+                    DUE.is("size of " + other + " after a put in " + section, r.size(other), other == section ? i + 1 : 0);
+                }
+                DUE.is("h0 after a put in " + section, r.headAt(0), 4);
+                DUE.is("h1 after a put in " + section, r.headAt(1), 2);
+            }
+        }
+        ViewRewriter r = Scene.holding(2);
+        for (int section = 0; section <= 5; section++) {
+            String[] before = new String[6];
+            for (int other = 0; other <= 5; other++) {
+                before[other] = State.section(r, other);
+            }
+            State.fill(r, section, 1, 1, 1);
+            for (int other = 0; other <= 5; other++) {
+                DUE.holds("section " + other + " after a put in " + section,
+                        State.section(r, other).equals(before[other]) == (other != section));
+            }
+            DUE.is("h0 after a put in " + section, r.headAt(0), 3);
+            DUE.is("h1 after a put in " + section, r.headAt(1), 2);
+        }
     }
 }

@@ -1,77 +1,107 @@
-/** Promise 3: drop removes one triple and touches nothing else. */
+/** Promise 3: removing a triple. */
 public final class Promise03Test {
-    private static final int[] FAR = {Integer.MIN_VALUE, -1, 5, 6, Integer.MAX_VALUE};
     private static final Due DUE = new Due();
 
     public static void main(String[] args) {
-        wrongInputs();
-        eachOfThem();
-        headStays();
+        refusals();
+        notThere();
+        removed();
+        neverFull();
+        nothingElse();
         DUE.finish();
     }
 
-    private static void wrongInputs() {
-        ViewRewriter x = new ViewRewriter(2, 1, 2, 8);
-        State.fill(x, 0, 1, 4, 4);
-        State.fill(x, 1, 0, 4, 4);
-        State.fill(x, 2, 0, 1, 1);
-        State.fill(x, 3, 1, 3, 3);
-        String before = State.of(x);
-        for (int far : FAR) {
-            DUE.is("drop section " + far, x.drop(far, 0, 0, 0), -1);
-            for (int section = 0; section <= 3; section++) {
-                DUE.is("drop k " + far, x.drop(section, far, 0, 0), -1);
-                DUE.is("drop x " + far, x.drop(section, 0, far, 0), -1);
-                DUE.is("drop y " + far, x.drop(section, 0, 0, far), -1);
+    private static void refusals() {
+        DUE.says("It answers BAD exactly as in put (cases 1 to 3 of Promise 2), and nothing changes.");
+        Refusals drop = new Refusals(DUE, "drop", ViewRewriter::drop);
+        drop.sections();
+        drop.kinds();
+        drop.terms();
+        drop.noOthers();
+        drop.whenFull();
+    }
+
+    private static void notThere() {
+        DUE.says("It answers NO if the triple is not there, and nothing changes.");
+        Shape shape = new Shape(3, 3, 4, 8);
+        for (ViewRewriter r : Scene.all()) {
+            String before = State.of(r);
+            for (int section = 0; section <= 5; section++) {
+                for (int[] t : shape.triples(section)) {
+                    if (r.has(section, t[0], t[1], t[2]) == 0) {
+                        DUE.is("drop(" + section + "," + t[0] + "," + t[1] + "," + t[2] + ")",
+                                r.drop(section, t[0], t[1], t[2]), 0);
+                    }
+                }
             }
+            DUE.unchanged("drops of what is not there", r, before);
         }
-        DUE.is("drop of no section", x.drop(4, 0, 0, 0), -1);
-        DUE.is("drop of no relation", x.drop(0, 2, 0, 0), -1);
-        DUE.is("drop of no relation in a body", x.drop(3, 2, 0, 0), -1);
-        DUE.is("drop of no view", x.drop(1, 1, 0, 0), -1);
-        DUE.is("drop of no view in rows", x.drop(2, 1, 0, 0), -1);
-        DUE.is("drop of no value", x.drop(2, 0, 0, 2), -1);
-        DUE.is("drop of no view variable", x.drop(3, 0, 4, 0), -1);
-        DUE.is("drop of a triple not there", x.drop(0, 1, 4, 3), 0);
-        DUE.is("drop of another kind", x.drop(0, 0, 4, 4), 0);
-        DUE.is("drop of a triple of another section", x.drop(3, 1, 1, 1), 0);
-        DUE.holds("nothing has changed", State.of(x).equals(before));
+    }
+
+    private static void removed() {
+        DUE.says("Otherwise the triple is removed and the answer is YES.");
+        for (int section = 0; section <= 5; section++) {
+            int[] t = Scene.triples(section);
+            for (int i = 0; i < t.length; i += 3) {
+                ViewRewriter r = Scene.full();
+                DUE.is("drop " + i / 3 + " of " + section, r.drop(section, t[i], t[i + 1], t[i + 2]), 1);
+                DUE.is("it is gone", r.has(section, t[i], t[i + 1], t[i + 2]), 0);
+                DUE.is("one less", r.size(section), t.length / 3 - 1);
+                DUE.is("drop again", r.drop(section, t[i], t[i + 1], t[i + 2]), 0);
+            }
+            ViewRewriter r = Scene.full();
+            for (int i = 0; i < t.length; i += 3) {
+                DUE.is("drop one after the other", r.drop(section, t[i], t[i + 1], t[i + 2]), 1);
+                DUE.is("one less again", r.size(section), t.length / 3 - 1 - i / 3);
+            }
+            DUE.is("drop of an empty section", r.drop(section, t[0], t[1], t[2]), 0);
+        }
+    }
+
+    private static void neverFull() {
+        DUE.says("It never answers FULL.");
+        for (int section = 0; section <= 5; section++) {
+            ViewRewriter r = Scene.full();
+            int[] t = Scene.triples(section);
+            DUE.is("not there, section " + section + " full", r.drop(section, 0, 1, 1), 0);
+            DUE.is("there, section " + section + " full", r.drop(section, t[0], t[1], t[2]), 1);
+            DUE.is("wrong, section " + section + " full", r.drop(section, 3, 1, 1), -1);
+        }
     }
 
     /** Whichever triple goes, the others stay; so the place in which one is kept cannot matter. */
-    private static void eachOfThem() {
+    private static void nothingElse() {
+        DUE.says("No other triple and no other section changes, and the candidate's head does not change, even when the last"
+                + " candidate atom is removed.");
         for (int section = 0; section <= 5; section++) {
-            int most = section == 2 ? 8 : section < 2 ? 4 : 3;
-            for (int gone = 0; gone < most; gone++) {
-                ViewRewriter x = new ViewRewriter(3, 3, 4, 8);
-                ViewRewriter y = new ViewRewriter(3, 3, 4, 8);
-                for (int i = 0; i < most; i++) {
-                    x.put(section, i % 3, i / 4, i % 4);
-                    if (i != gone) {
-                        y.put(section, i % 3, i / 4, i % 4);
-                    }
-                }
-                State.fill(x, (section + 1) % 6, 1, 2, 3);
-                State.fill(y, (section + 1) % 6, 1, 2, 3);
-                String name = "drop of " + gone + " in " + section;
-                DUE.is(name, x.drop(section, gone % 3, gone / 4, gone % 4), 1);
-                DUE.holds(name + " leaves the others", State.of(x).equals(State.of(y)));
-                DUE.is(name + " again", x.drop(section, gone % 3, gone / 4, gone % 4), 0);
-                DUE.is(name + " has", x.has(section, gone % 3, gone / 4, gone % 4), 0);
-                DUE.is(name + " size", x.size(section), most - 1);
-                DUE.is(name + " and put", x.put(section, gone % 3, gone / 4, gone % 4), 1);
-                DUE.is(name + " size after put", x.size(section), most);
+            int[] t = Scene.triples(section);
+            for (int gone = 0; gone < t.length; gone += 3) {
+                ViewRewriter with = Scene.full();
+                with.drop(section, t[gone], t[gone + 1], t[gone + 2]);
+                DUE.unchanged("drop of " + gone / 3 + " in " + section + ", beside one never put", with,
+                        State.of(without(section, gone)));
             }
         }
+        ViewRewriter r = Scene.full();
+        int[] t = Scene.triples(1);
+        for (int i = 0; i < t.length; i += 3) {
+            DUE.is("drop of a candidate atom", r.drop(1, t[i], t[i + 1], t[i + 2]), 1);
+            DUE.is("h0 stays", r.headAt(0), 3);
+            DUE.is("h1 stays", r.headAt(1), 2);
+        }
+        DUE.is("no candidate atom is left", r.size(1), 0);
     }
 
-    private static void headStays() {
-        ViewRewriter x = new ViewRewriter(3, 3, 4, 8);
-        State.fill(x, 1, 0, 0, 1);
-        x.head(3, 3);
-        DUE.is("drop of the last candidate atom", x.drop(1, 0, 0, 1), 1);
-        DUE.is("size", x.size(1), 0);
-        DUE.is("h0 stays", x.headAt(0), 3);
-        DUE.is("h1 stays", x.headAt(1), 3);
+    private static ViewRewriter without(int section, int gone) {
+        ViewRewriter r = Scene.full();
+        r.clear(section);
+        r.head(3, 2);
+        int[] t = Scene.triples(section);
+        for (int i = 0; i < t.length; i += 3) {
+            if (i != gone) {
+                State.fill(r, section, t[i], t[i + 1], t[i + 2]);
+            }
+        }
+        return r;
     }
 }

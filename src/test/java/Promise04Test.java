@@ -1,48 +1,44 @@
-/** Promise 4: has tells bad triples, absent ones and present ones apart, and changes nothing. */
+/** Promise 4: asking for a triple. */
 public final class Promise04Test {
     private static final Due DUE = new Due();
 
     public static void main(String[] args) {
-        for (int relations = 1; relations <= 3; relations++) {
-            for (int views = 1; views <= 3; views++) {
-                for (int values = 1; values <= 4; values++) {
-                    ranges(new ViewRewriter(relations, views, values, 8), relations, views, values);
-                }
-            }
+        DUE.says("has(section, k, x, y) answers BAD exactly as in put (cases 1 to 3 of Promise 2); otherwise YES if the triple"
+                + " is in the section, else NO.");
+        Refusals has = new Refusals(DUE, "has", ViewRewriter::has);
+        has.sections();
+        has.kinds();
+        has.terms();
+        has.noOthers();
+        has.whenFull();
+        thereOrNot();
+        DUE.says("It changes nothing.");
+        for (int section = -1; section <= 6; section++) {
+            int asked = section;
+            Unchanging.ask(DUE, "has in section " + section, r -> State.section(r, asked));
         }
-        ViewRewriter x = new ViewRewriter(3, 3, 4, 8);
-        State.fill(x, 2, 1, 2, 3);
-        DUE.is("has", x.has(2, 1, 2, 3), 1);
-        DUE.is("has of another view", x.has(2, 0, 2, 3), 0);
-        DUE.is("has of another x", x.has(2, 1, 1, 3), 0);
-        DUE.is("has of another y", x.has(2, 1, 2, 2), 0);
-        DUE.is("has turned", x.has(2, 1, 3, 2), 0);
-        DUE.is("has in another section", x.has(0, 1, 2, 3), 0);
-        DUE.is("far section", x.has(Integer.MAX_VALUE, 0, 0, 0), -1);
-        DUE.is("far section", x.has(Integer.MIN_VALUE, 0, 0, 0), -1);
-        DUE.is("far kind", x.has(0, Integer.MIN_VALUE, 0, 0), -1);
-        DUE.is("far x", x.has(0, 0, Integer.MAX_VALUE, 0), -1);
-        DUE.is("far y", x.has(0, 0, 0, Integer.MIN_VALUE), -1);
-        String once = State.of(x);
-        DUE.holds("asking changes nothing", State.of(x).equals(once));
         DUE.finish();
     }
 
-    private static void ranges(ViewRewriter r, int relations, int views, int values) {
-        for (int section = -2; section <= 7; section++) {
-            boolean overViews = section == 1 || section == 2;
-            int kinds = overViews ? views : relations;
-            int terms = section < 2 ? 5 : section == 2 ? values : 4;
-            for (int k = -2; k <= 4; k++) {
-                for (int x = -2; x <= 6; x++) {
-                    for (int y = -2; y <= 6; y++) {
-                        boolean good = section >= 0 && section <= 2 + views && k >= 0 && k < kinds
-                                && x >= 0 && x < terms && y >= 0 && y < terms;
-                        DUE.is("has(" + section + "," + k + "," + x + "," + y + ") of " + relations + "," + views
-                                + "," + values, r.has(section, k, x, y), good ? 0 : -1);
-                    }
+    private static void thereOrNot() {
+        Shape shape = new Shape(3, 3, 4, 8);
+        for (int most = 0; most <= 8; most++) {
+            ViewRewriter r = Scene.holding(most);
+            for (int section = 0; section <= 5; section++) {
+                for (int[] t : shape.triples(section)) {
+                    DUE.is("has(" + section + "," + t[0] + "," + t[1] + "," + t[2] + ") with " + most,
+                            r.has(section, t[0], t[1], t[2]), isAmong(Scene.triples(section), most, t) ? 1 : 0);
                 }
             }
         }
+    }
+
+    private static boolean isAmong(int[] triples, int most, int[] t) {
+        for (int i = 0; i < triples.length && i < 3 * most; i += 3) {
+            if (triples[i] == t[0] && triples[i + 1] == t[1] && triples[i + 2] == t[2]) {
+                return true;
+            }
+        }
+        return false;
     }
 }

@@ -1,36 +1,63 @@
 /** Promise 5: the size of a section. */
 public final class Promise05Test {
+    private static final Due DUE = new Due();
+
     public static void main(String[] args) {
-        Due due = new Due();
+        DUE.says("size(section) answers BAD if section is not 0..2+views; otherwise the number of triples in the section, 0 if"
+                + " it is empty.");
+        wrongSections();
+        numbers();
+        afterCalls();
+        DUE.says("It changes nothing.");
+        for (int section = -1; section <= 6; section++) {
+            int asked = section;
+            Unchanging.ask(DUE, "size(" + section + ")", r -> r.size(asked));
+        }
+        DUE.finish();
+    }
+
+    private static void wrongSections() {
         for (int views = 1; views <= 3; views++) {
-            ViewRewriter x = new ViewRewriter(3, views, 4, 8);
+            ViewRewriter r = new ViewRewriter(3, views, 4, 8);
+            for (int section : Numbers.outside(3 + views)) {
+                DUE.is("size(" + section + ") of " + views + " views", r.size(section), -1);
+            }
             for (int section = 0; section <= 2 + views; section++) {
-                due.is("size of empty " + section, x.size(section), 0);
-            }
-            for (int section : new int[] {Integer.MIN_VALUE, -1, 3 + views, 6, 100, Integer.MAX_VALUE}) {
-                due.is("size of " + section, x.size(section), -1);
+                DUE.is("size(" + section + ") when empty", r.size(section), 0);
             }
         }
-        ViewRewriter x = new ViewRewriter(3, 3, 4, 8);
-        State.fill(x, 0, 0, 0, 0, 1, 0, 0, 2, 0, 0);
-        State.fill(x, 1, 0, 0, 0);
-        State.fill(x, 2, 0, 0, 0, 0, 0, 1, 0, 0, 2, 1, 0, 0, 2, 0, 0);
-        State.fill(x, 5, 0, 0, 0, 0, 0, 1);
-        int[] sizes = {3, 1, 5, 0, 0, 2};
+    }
+
+    private static void numbers() {
         for (int section = 0; section <= 5; section++) {
-            due.is("size of " + section, x.size(section), sizes[section]);
-            due.is("size of " + section + " again", x.size(section), sizes[section]);
+            for (int amount = 0; amount <= Scene.limit(section); amount++) {
+                ViewRewriter r = Scene.empty();
+                Scene.fill(r, section, amount);
+                for (int other = 0; other <= 5; other++) {
+                    DUE.is("size(" + other + ") with " + amount + " in " + section, r.size(other),
+                            other == section ? amount : 0);
+                }
+            }
         }
-        x.put(0, 0, 0, 0);
-        due.is("size after a put that answers NO", x.size(0), 3);
-        x.put(0, 3, 0, 0);
-        due.is("size after a put that answers BAD", x.size(0), 3);
-        x.drop(0, 0, 0, 0);
-        due.is("size after a drop", x.size(0), 2);
-        x.drop(0, 0, 0, 0);
-        due.is("size after a drop that answers NO", x.size(0), 2);
-        x.clear(2);
-        due.is("size after clear", x.size(2), 0);
-        due.finish();
+    }
+
+    private static void afterCalls() {
+        ViewRewriter r = Scene.full();
+        for (int section = 0; section <= 5; section++) {
+            int limit = Scene.limit(section);
+            int[] t = Scene.triples(section);
+            r.put(section, t[0], t[1], t[2]);
+            DUE.is("size after a put that answers NO", r.size(section), limit);
+            r.put(section, 0, 1, 1);
+            DUE.is("size after a put that answers FULL", r.size(section), limit);
+            r.put(section, 3, 0, 0);
+            DUE.is("size after a put that answers BAD", r.size(section), limit);
+            r.drop(section, 0, 1, 1);
+            DUE.is("size after a drop that answers NO", r.size(section), limit);
+            r.drop(section, t[0], t[1], t[2]);
+            DUE.is("size after a drop", r.size(section), limit - 1);
+            r.clear(section);
+            DUE.is("size after clear", r.size(section), 0);
+        }
     }
 }

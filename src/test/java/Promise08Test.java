@@ -1,166 +1,203 @@
-/** Promise 8: sure answers from the rows of the views in the mask. */
+/** Promise 8: sure answers from the rows. */
 public final class Promise08Test {
-    private static final int[] MASKS = {Integer.MIN_VALUE, -8, -1, 0, 1, 2, 3, 4, 5, 6, 7, 8, Integer.MAX_VALUE};
     private static final Due DUE = new Due();
 
     public static void main(String[] args) {
-        emptyQuery();
-        wrongInputs();
+        refusals();
+        sureAnswers();
+        noQueryAtoms();
         noFacts();
-        masks();
-        unknownsAreApart();
-        unknownsAreShared();
-        plainTermsAreKept();
-        unusedVariables();
+        equalValues();
+        candidatePlaysNoPart();
+        changesNothing();
         DUE.finish();
     }
 
-    private static void emptyQuery() {
-        ViewRewriter x = new ViewRewriter(1, 1, 3, 1);
-        for (int mask : MASKS) {
-            for (int a = 0; a < 3; a++) {
-                for (int b = 0; b < 3; b++) {
-                    DUE.is("no atoms, certain(" + mask + "," + a + "," + b + ")", x.certain(mask, a, b), 1);
+    private static void refusals() {
+        DUE.says("It answers BAD if a or b is not a value, whatever the mask.");
+        for (int values = 1; values <= 4; values++) {
+            ViewRewriter none = new ViewRewriter(1, 1, values, 1);
+            ViewRewriter some = new ViewRewriter(1, 1, values, 1);
+            State.fill(some, 0, 0, 3, 4);
+            State.fill(some, 2, 0, 0, 0);
+            State.fill(some, 3, 0, 0, 0);
+            for (int mask : new int[] {Integer.MIN_VALUE, -2, -1, 0, 1, 2, 7, 8, Integer.MAX_VALUE}) {
+                for (int number : Numbers.outside(values)) {
+                    String of = " " + number + ", mask " + mask + ", values " + values;
+                    DUE.is("a" + of, none.certain(mask, number, 0), -1);
+                    DUE.is("b" + of, none.certain(mask, values - 1, number), -1);
+                    DUE.is("a and b" + of, none.certain(mask, number, number), -1);
+                    DUE.is("a, with facts" + of, some.certain(mask, number, values - 1), -1);
+                    DUE.is("b, with facts" + of, some.certain(mask, 0, number), -1);
                 }
+                DUE.is("greatest value, mask " + mask, none.certain(mask, values - 1, values - 1), 1);
+                DUE.is("greatest value, mask " + mask, some.certain(mask, values - 1, values - 1), mask & 1);
             }
         }
     }
 
-    private static void wrongInputs() {
-        for (int values = 1; values <= 4; values++) {
-            ViewRewriter x = new ViewRewriter(1, 1, values, 1);
-            for (int mask : MASKS) {
-                for (int far : new int[] {Integer.MIN_VALUE, -1, values, 5, Integer.MAX_VALUE}) {
-                    DUE.is("bad a " + far, x.certain(mask, far, 0), -1);
-                    DUE.is("bad b " + far, x.certain(mask, 0, far), -1);
-                    DUE.is("bad both " + far, x.certain(mask, far, far), -1);
-                }
-                DUE.is("greatest value", x.certain(mask, values - 1, values - 1), 1);
+    private static void sureAnswers() {
+        DUE.says("Otherwise let T be the triples of ROWS whose view is in the mask, the plain terms being the values"
+                + " 0..values-1: the answer is YES if the query matches the facts of T at (a,b), else NO.");
+        viewsInTheMask();
+        rowsInALine();
+        pathThroughUnknowns();
+        unknownsOfRows();
+    }
+
+    /** View v answers relation v; the query joins all three, so only masks with the three low bits serve. */
+    private static void viewsInTheMask() {
+        ViewRewriter r = new ViewRewriter(3, 3, 4, 8);
+        State.fill(r, 0, 0, 0, 2, 1, 2, 3, 2, 3, 1);
+        for (int v = 0; v < 3; v++) {
+            State.fill(r, 3 + v, v, 0, 1);
+            State.fill(r, 2, v, v, v + 1);
+        }
+        for (int mask = -8; mask <= 15; mask++) {
+            for (int i = 0; i < 16; i++) {
+                DUE.is("certain(" + mask + "," + i / 4 + "," + i % 4 + ")", r.certain(mask, i / 4, i % 4),
+                        (mask & 7) == 7 && i == 3 ? 1 : 0);
+            }
+        }
+    }
+
+    private static void rowsInALine() {
+        ViewRewriter r = new ViewRewriter(1, 1, 2, 8);
+        State.fill(r, 0, 0, 0, 2, 0, 2, 1);
+        State.fill(r, 3, 0, 0, 1);
+        State.fill(r, 2, 0, 0, 1, 0, 1, 0);
+        DUE.is("two rows in a line", r.certain(1, 0, 0), 1);
+        DUE.is("two rows in a line", r.certain(1, 1, 1), 1);
+        DUE.is("an odd way", r.certain(1, 0, 1), 0);
+        State.fill(r, 2, 0, 1, 1);
+        DUE.is("with a loop", r.certain(1, 0, 1), 1);
+        r.clear(0);
+        State.fill(r, 0, 0, 2, 2);
+        DUE.is("a loop away from the head", r.certain(1, 0, 0), 1);
+        r.drop(2, 0, 1, 1);
+        DUE.is("no loop", r.certain(1, 0, 0), 0);
+        State.fill(r, 3, 0, 3, 3);
+        DUE.is("a loop at an unknown", r.certain(1, 0, 0), 1);
+    }
+
+    /** All eight rows have their own unknowns, and one row's facts share theirs. */
+    private static void pathThroughUnknowns() {
+        ViewRewriter r = new ViewRewriter(1, 1, 4, 8);
+        State.fill(r, 0, 0, 0, 2, 0, 2, 3, 0, 3, 1);
+        State.fill(r, 3, 0, 0, 2, 0, 2, 3, 0, 3, 1);
+        for (int i = 0; i < 8; i++) {
+            State.fill(r, 2, 0, i / 4, i % 4);
+        }
+        for (int i = 0; i < 16; i++) {
+            DUE.is("path " + i / 4 + "," + i % 4, r.certain(1, i / 4, i % 4), i < 8 ? 1 : 0);
+        }
+        r.drop(0, 0, 3, 1);
+        DUE.is("half a path leaves the head's end free", r.certain(1, 0, 3), 1);
+        State.fill(r, 0, 0, 3, 4);
+        DUE.is("a path through unknowns to any value", r.certain(1, 0, 3), 1);
+    }
+
+    private static void unknownsOfRows() {
+        ViewRewriter r = new ViewRewriter(2, 2, 4, 8);
+        State.fill(r, 0, 0, 0, 2, 1, 2, 1);
+        State.fill(r, 3, 0, 0, 2);
+        State.fill(r, 4, 1, 2, 1);
+        State.fill(r, 2, 0, 0, 1, 1, 0, 1);
+        DUE.is("unknowns of two views", r.certain(3, 0, 1), 0);
+        r.clear(4);
+        r.clear(3);
+        State.fill(r, 3, 0, 0, 2, 1, 3, 1);
+        State.fill(r, 2, 0, 0, 2, 0, 2, 1, 0, 3, 1);
+        DUE.is("unknowns of rows of one view", r.certain(3, 0, 1), 0);
+        r.clear(0);
+        State.fill(r, 0, 0, 0, 2, 0, 3, 2, 1, 4, 1);
+        DUE.is("each by itself", r.certain(3, 0, 1), 1);
+        r.clear(0);
+        r.clear(3);
+        State.fill(r, 3, 0, 0, 2, 0, 1, 2);
+        State.fill(r, 0, 0, 0, 2, 0, 1, 2);
+        DUE.is("both ends of one row", r.certain(1, 0, 1), 1);
+        DUE.is("both ends through two rows", r.certain(1, 0, 3), 0);
+        DUE.is("one end twice", r.certain(1, 3, 3), 1);
+    }
+
+    private static void noQueryAtoms() {
+        DUE.says("with no query atoms the answer is YES, for every mask;");
+        for (Shape shape : Shape.all()) {
+            ViewRewriter r = shape.make();
+            for (int mask : Numbers.wide()) {
+                DUE.is(shape + " certain(" + mask + ",0,0)", r.certain(mask, 0, 0), 1);
+                DUE.is(shape + " certain(" + mask + ") of the greatest", r.certain(mask, 0, shape.values - 1), 1);
+            }
+        }
+        ViewRewriter r = Scene.full();
+        r.clear(0);
+        for (int i = 0; i < 16; i++) {
+            for (int mask = -1; mask < 8; mask++) {
+                DUE.is("all else full, certain(" + mask + "," + i / 4 + "," + i % 4 + ")", r.certain(mask, i / 4, i % 4), 1);
             }
         }
     }
 
     private static void noFacts() {
-        ViewRewriter x = new ViewRewriter(2, 2, 2, 8);
-        State.fill(x, 0, 0, 0, 1);
-        DUE.is("no rows, no bodies", x.certain(-1, 0, 1), 0);
-        State.fill(x, 3, 0, 0, 1);
-        DUE.is("a body without rows", x.certain(-1, 0, 1), 0);
-        State.fill(x, 2, 1, 0, 1);
-        DUE.is("a row of a view without a body", x.certain(-1, 0, 1), 0);
-        State.fill(x, 2, 0, 0, 1);
-        DUE.is("a row with a body", x.certain(-1, 0, 1), 1);
-        DUE.is("turned", x.certain(-1, 1, 0), 0);
-        DUE.is("the view is not in the mask", x.certain(2, 0, 1), 0);
-        DUE.is("no view in the mask", x.certain(0, 0, 1), 0);
-        x.clear(3);
-        DUE.is("the body is gone", x.certain(-1, 0, 1), 0);
-        State.fill(x, 3, 1, 0, 1);
-        DUE.is("the body has another relation", x.certain(-1, 0, 1), 0);
-        x.clear(3);
-        State.fill(x, 3, 0, 1, 0);
-        DUE.is("the body is turned", x.certain(-1, 1, 0), 1);
-        DUE.is("the body is turned", x.certain(-1, 0, 1), 0);
-    }
-
-    /** View v answers relation v; the query joins all three, so only masks with the three low bits serve. */
-    private static void masks() {
-        ViewRewriter x = new ViewRewriter(3, 3, 4, 8);
-        State.fill(x, 0, 0, 0, 2, 1, 2, 3, 2, 3, 1);
-        for (int v = 0; v < 3; v++) {
-            State.fill(x, 3 + v, v, 0, 1);
-            State.fill(x, 2, v, v, v + 1);
-        }
-        for (int mask : MASKS) {
-            DUE.is("certain(" + mask + ",0,3)", x.certain(mask, 0, 3), (mask & 7) == 7 ? 1 : 0);
-        }
-        ViewRewriter y = new ViewRewriter(3, 1, 4, 8);
-        State.fill(y, 0, 0, 0, 1);
-        State.fill(y, 3, 0, 0, 1);
-        State.fill(y, 2, 0, 0, 1);
-        for (int mask : MASKS) {
-            DUE.is("one view, certain(" + mask + ",0,1)", y.certain(mask, 0, 1), (mask & 1) == 1 ? 1 : 0);
+        DUE.says("with at least one query atom and no facts (for example when no view is in the mask, or no view in the mask has"
+                + " both a row and a body atom) the answer is NO.");
+        for (int code = 0; code < 25; code++) {
+            ViewRewriter r = new ViewRewriter(1, 3, 2, 8);
+            State.fill(r, 0, 0, code / 5, code % 5);
+            String query = "query atom (" + code / 5 + "," + code % 5 + "), ";
+            DUE.is(query + "no rows and no bodies", r.certain(-1, 0, 0), 0);
+            State.fill(r, 3, 0, 0, 0);
+            DUE.is(query + "a body without a row", r.certain(-1, 0, 0), 0);
+            State.fill(r, 2, 1, 0, 0);
+            DUE.is(query + "a row without a body", r.certain(-1, 0, 0), 0);
+            State.fill(r, 5, 0, 0, 0);
+            State.fill(r, 2, 2, 0, 0);
+            DUE.is(query + "a view with both", r.certain(-1, 0, 0), 1);
+            DUE.is(query + "a view with both, not in the mask", r.certain(3, 0, 0), 0);
+            DUE.is(query + "no view in the mask", r.certain(0, 0, 0), 0);
+            DUE.is(query + "no view in the mask", r.certain(8, 0, 0), 0);
+            r.clear(5);
+            DUE.is(query + "the body is gone", r.certain(-1, 0, 0), 0);
         }
     }
 
-    /** The unknown end of one row's fact is not the unknown start of another row's. */
-    private static void unknownsAreApart() {
-        ViewRewriter x = new ViewRewriter(2, 2, 4, 8);
-        State.fill(x, 0, 0, 0, 2, 1, 2, 1);
-        State.fill(x, 3, 0, 0, 2);
-        State.fill(x, 4, 1, 2, 1);
-        State.fill(x, 2, 0, 0, 1, 1, 0, 1);
-        DUE.is("unknowns of two views", x.certain(3, 0, 1), 0);
-        x.clear(4);
-        x.clear(3);
-        State.fill(x, 3, 0, 0, 2, 1, 3, 1);
-        DUE.is("two unknowns of one row", x.certain(3, 0, 1), 0);
-        State.fill(x, 2, 0, 0, 2, 0, 2, 1, 0, 3, 1);
-        DUE.is("unknowns of rows of one view", x.certain(3, 0, 1), 0);
-        x.clear(0);
-        State.fill(x, 0, 0, 0, 2, 0, 3, 2, 1, 4, 1);
-        DUE.is("each by itself", x.certain(3, 0, 1), 1);
-        x.clear(0);
-        x.clear(3);
-        State.fill(x, 3, 0, 0, 2, 0, 1, 2);
-        State.fill(x, 0, 0, 0, 2, 0, 1, 2);
-        DUE.is("both ends of one row", x.certain(1, 0, 1), 1);
-        DUE.is("both ends through two rows", x.certain(1, 0, 3), 0);
-        DUE.is("one end twice", x.certain(1, 3, 3), 1);
-    }
-
-    /** All eight rows have their own unknowns, and one row's facts share theirs. */
-    private static void unknownsAreShared() {
-        ViewRewriter x = new ViewRewriter(1, 1, 4, 8);
-        State.fill(x, 0, 0, 0, 2, 0, 2, 3, 0, 3, 1);
-        State.fill(x, 3, 0, 0, 2, 0, 2, 3, 0, 3, 1);
-        for (int i = 0; i < 8; i++) {
-            State.fill(x, 2, 0, i / 4, i % 4);
-        }
+    private static void equalValues() {
+        DUE.says("a = b is allowed.");
+        ViewRewriter r = new ViewRewriter(1, 1, 4, 8);
+        State.fill(r, 0, 0, 0, 1);
+        State.fill(r, 3, 0, 0, 1);
         for (int a = 0; a < 4; a++) {
-            for (int b = 0; b < 4; b++) {
-                DUE.is("path through " + a + "," + b, x.certain(1, a, b), a < 2 ? 1 : 0);
+            DUE.is("no row, a = b = " + a, r.certain(1, a, a), 0);
+            State.fill(r, 2, 0, a, (a + 1) % 4);
+            DUE.is("a row elsewhere, a = b = " + a, r.certain(1, a, a), 0);
+            State.fill(r, 2, 0, a, a);
+            DUE.is("its row, a = b = " + a, r.certain(1, a, a), 1);
+        }
+    }
+
+    private static void candidatePlaysNoPart() {
+        DUE.says("The candidate and its head play no part.");
+        for (int most = 0; most <= 8; most++) {
+            ViewRewriter r = Scene.holding(most);
+            String before = State.certain(r);
+            r.clear(1);
+            DUE.holds("without a candidate", State.certain(r).equals(before));
+            for (int code = 0; code < 25; code++) {
+                r.head(code / 5, code % 5);
+                DUE.holds("head " + code / 5 + "," + code % 5, State.certain(r).equals(before));
             }
+            State.fill(r, 1, 0, 0, 0, 1, 1, 1, 2, 0, 1);
+            DUE.holds("with another candidate", State.certain(r).equals(before));
         }
-        x.drop(0, 0, 3, 1);
-        DUE.is("half a path leaves the head's end free", x.certain(1, 0, 3), 1);
-        State.fill(x, 0, 0, 3, 4);
-        DUE.is("a path through unknowns to any value", x.certain(1, 0, 3), 1);
     }
 
-    private static void plainTermsAreKept() {
-        ViewRewriter x = new ViewRewriter(1, 1, 2, 8);
-        State.fill(x, 0, 0, 0, 2, 0, 2, 1);
-        State.fill(x, 3, 0, 0, 1);
-        State.fill(x, 2, 0, 0, 1, 0, 1, 0);
-        DUE.is("two rows in a line", x.certain(1, 0, 0), 1);
-        DUE.is("two rows in a line", x.certain(1, 1, 1), 1);
-        DUE.is("an odd way", x.certain(1, 0, 1), 0);
-        State.fill(x, 2, 0, 1, 1);
-        DUE.is("with a loop", x.certain(1, 0, 1), 1);
-        x.clear(0);
-        State.fill(x, 0, 0, 2, 2);
-        DUE.is("a loop away from the head", x.certain(1, 0, 0), 1);
-        x.drop(2, 0, 1, 1);
-        DUE.is("no loop", x.certain(1, 0, 0), 0);
-        State.fill(x, 3, 0, 3, 3);
-        DUE.is("a loop at an unknown", x.certain(1, 0, 0), 1);
-    }
-
-    /** The candidate and its head play no part, and variables without atoms bind nothing. */
-    private static void unusedVariables() {
-        ViewRewriter x = new ViewRewriter(1, 1, 4, 8);
-        State.fill(x, 0, 0, 4, 3);
-        State.fill(x, 3, 0, 2, 3);
-        State.fill(x, 2, 0, 0, 0);
-        for (int a = 0; a < 4; a++) {
-            DUE.is("heads without atoms", x.certain(1, a, 3 - a), 1);
+    private static void changesNothing() {
+        DUE.says("It changes nothing.");
+        for (int mask = -1; mask <= 8; mask++) {
+            int asked = mask;
+            Unchanging.ask(DUE, "certain(" + mask + ",0,2)", r -> r.certain(asked, 0, 2));
+            Unchanging.ask(DUE, "certain(" + mask + ",4,0)", r -> r.certain(asked, 4, 0));
         }
-        State.fill(x, 1, 0, 0, 0);
-        x.head(4, 4);
-        DUE.is("the candidate plays no part", x.certain(1, 1, 2), 1);
-        String before = State.of(x);
-        x.certain(1, 1, 2);
-        DUE.holds("certain changes nothing", State.of(x).equals(before));
     }
 }

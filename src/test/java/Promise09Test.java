@@ -1,86 +1,150 @@
-/** Promise 9: whether any rows could give an answer through the views in the mask. */
+/** Promise 9: whether any rows could give an answer. */
 public final class Promise09Test {
-    private static final int[] MASKS = {Integer.MIN_VALUE, -8, -1, 0, 1, 2, 3, 4, 5, 6, 7, 8, Integer.MAX_VALUE};
     private static final Due DUE = new Due();
 
     public static void main(String[] args) {
-        masks();
-        headsFallTogether();
-        unknowns();
-        rowsPlayNoPart();
+        othersPlayNoPart();
+        oneTripleForEachView();
+        noQueryAtoms();
+        noBodies();
+        neverBad();
+        changesNothing();
         DUE.finish();
     }
 
-    private static void masks() {
-        ViewRewriter x = new ViewRewriter(3, 3, 4, 8);
-        for (int mask : MASKS) {
-            DUE.is("no query atoms, mask " + mask, x.rewritable(mask), 1);
+    private static void othersPlayNoPart() {
+        DUE.says("The loaded rows play no part, nor do the candidate and its head.");
+        for (int most = 0; most <= 8; most++) {
+            ViewRewriter r = Scene.holding(most);
+            String before = State.rewritable(r);
+            r.clear(2);
+            DUE.holds("without rows, " + most, State.rewritable(r).equals(before));
+            for (int i = 0; i < 8; i++) {
+                State.fill(r, 2, i % 3, i / 4, i % 4);
+                DUE.holds("with " + i + " rows", State.rewritable(r).equals(before));
+            }
+            r.clear(1);
+            DUE.holds("without a candidate", State.rewritable(r).equals(before));
+            for (int code = 0; code < 25; code++) {
+                r.head(code / 5, code % 5);
+                DUE.holds("head " + code / 5 + "," + code % 5, State.rewritable(r).equals(before));
+            }
+            State.fill(r, 1, 0, 0, 0, 1, 1, 1, 2, 0, 1);
+            DUE.holds("with another candidate", State.rewritable(r).equals(before));
         }
-        State.fill(x, 0, 0, 0, 2, 1, 2, 3, 2, 3, 1);
-        for (int mask : MASKS) {
-            DUE.is("no bodies, mask " + mask, x.rewritable(mask), 0);
+        ViewRewriter r = new ViewRewriter(1, 1, 4, 8);
+        State.fill(r, 0, 0, 0, 2, 0, 2, 1);
+        State.fill(r, 3, 0, 0, 2, 0, 2, 3);
+        for (int i = 0; i < 8; i++) {
+            DUE.is(i + " rows that give no answer", r.rewritable(1), 0);
+            State.fill(r, 2, 0, i / 4, i % 4);
         }
+        r.clear(2);
+        r.drop(3, 0, 2, 3);
+        State.fill(r, 3, 0, 2, 1);
+        DUE.is("no rows, and an answer that could be", r.rewritable(1), 1);
+    }
+
+    private static void oneTripleForEachView() {
+        DUE.says("Let T hold exactly one triple (v,0,0) for each view v in the mask, the only plain term being 0: the answer is"
+                + " YES if the query matches the facts of T at (0,0), else NO.");
+        viewsInTheMask();
+        headsFallTogether();
+        unknownsOfOneTriple();
+        for (int values = 1; values <= 4; values++) {
+            ViewRewriter r = new ViewRewriter(1, 1, values, 1);
+            State.fill(r, 0, 0, 0, 2, 0, 2, 1);
+            State.fill(r, 3, 0, 0, 1);
+            DUE.is("a loop at 0, with " + values + " values", r.rewritable(1), 1);
+        }
+    }
+
+    private static void viewsInTheMask() {
+        ViewRewriter r = new ViewRewriter(3, 3, 4, 8);
+        State.fill(r, 0, 0, 0, 2, 1, 2, 3, 2, 3, 1);
         for (int v = 0; v < 3; v++) {
-            State.fill(x, 3 + v, v, 0, 1);
+            State.fill(r, 3 + v, v, 0, 1);
         }
-        for (int mask : MASKS) {
-            DUE.is("all three views, mask " + mask, x.rewritable(mask), (mask & 7) == 7 ? 1 : 0);
-        }
-        ViewRewriter y = new ViewRewriter(1, 2, 1, 1);
-        State.fill(y, 0, 0, 0, 1);
-        State.fill(y, 4, 0, 0, 1);
-        for (int mask : MASKS) {
-            DUE.is("the second view, mask " + mask, y.rewritable(mask), (mask & 2) == 2 ? 1 : 0);
+        for (int mask = -8; mask <= 15; mask++) {
+            DUE.is("all three views, mask " + mask, r.rewritable(mask), (mask & 7) == 7 ? 1 : 0);
         }
     }
 
     private static void headsFallTogether() {
-        ViewRewriter x = new ViewRewriter(1, 1, 4, 8);
-        State.fill(x, 0, 0, 0, 1, 0, 1, 0, 0, 0, 0);
-        State.fill(x, 3, 0, 0, 1);
-        DUE.is("one loop takes all of it", x.rewritable(1), 1);
-        x.clear(3);
-        State.fill(x, 3, 0, 0, 2);
-        DUE.is("an end that is hidden", x.rewritable(1), 0);
-        x.clear(0);
-        State.fill(x, 0, 0, 0, 2, 0, 1, 3);
-        DUE.is("two ends that may be hidden", x.rewritable(1), 1);
-        State.fill(x, 0, 0, 2, 3);
-        DUE.is("a hidden end goes no further", x.rewritable(1), 0);
+        ViewRewriter r = new ViewRewriter(1, 1, 4, 8);
+        State.fill(r, 0, 0, 0, 1, 0, 1, 0, 0, 0, 0);
+        State.fill(r, 3, 0, 0, 1);
+        DUE.is("one loop takes all of it", r.rewritable(1), 1);
+        r.clear(3);
+        State.fill(r, 3, 0, 0, 2);
+        DUE.is("an end that is hidden", r.rewritable(1), 0);
+        r.clear(0);
+        State.fill(r, 0, 0, 0, 2, 0, 1, 3);
+        DUE.is("two ends that may be hidden", r.rewritable(1), 1);
+        State.fill(r, 0, 0, 2, 3);
+        DUE.is("a hidden end goes no further", r.rewritable(1), 0);
     }
 
-    private static void unknowns() {
-        ViewRewriter x = new ViewRewriter(2, 3, 4, 8);
-        State.fill(x, 0, 0, 0, 2, 1, 2, 1);
-        State.fill(x, 3, 0, 0, 2);
-        State.fill(x, 4, 1, 2, 1);
-        DUE.is("unknowns of two views", x.rewritable(-1), 0);
-        State.fill(x, 4, 0, 0, 3);
-        DUE.is("two unknowns of one view", x.rewritable(-1), 0);
-        State.fill(x, 5, 0, 0, 3, 1, 3, 1);
-        DUE.is("one unknown of the third view", x.rewritable(-1), 1);
-        DUE.is("without the third view", x.rewritable(3), 0);
-        DUE.is("the third view alone", x.rewritable(4), 1);
+    /** With one triple for the view, two facts out of it share its unknowns; a second triple is not there to help. */
+    private static void unknownsOfOneTriple() {
+        ViewRewriter r = new ViewRewriter(2, 3, 4, 8);
+        State.fill(r, 0, 0, 0, 2, 1, 2, 1);
+        State.fill(r, 3, 0, 0, 2);
+        State.fill(r, 4, 1, 2, 1);
+        DUE.is("unknowns of two views", r.rewritable(-1), 0);
+        State.fill(r, 4, 0, 0, 3);
+        DUE.is("two unknowns of one view", r.rewritable(-1), 0);
+        State.fill(r, 5, 0, 0, 3, 1, 3, 1);
+        DUE.is("one unknown of the third view", r.rewritable(-1), 1);
+        DUE.is("without the third view", r.rewritable(3), 0);
+        DUE.is("the third view alone", r.rewritable(4), 1);
     }
 
-    private static void rowsPlayNoPart() {
-        ViewRewriter x = new ViewRewriter(1, 1, 4, 8);
-        State.fill(x, 0, 0, 0, 2, 0, 2, 1);
-        State.fill(x, 3, 0, 0, 2, 0, 2, 3);
-        for (int i = 0; i < 8; i++) {
-            DUE.is(i + " rows", x.rewritable(1), 0);
-            State.fill(x, 2, 0, i / 4, i % 4);
+    private static void noQueryAtoms() {
+        DUE.says("With no query atoms the answer is YES, for every mask.");
+        ViewRewriter full = Scene.full();
+        full.clear(0);
+        for (int mask : Numbers.wide()) {
+            for (int views = 1; views <= 3; views++) {
+                DUE.is("nothing at all, mask " + mask, new ViewRewriter(1, views, 1, 1).rewritable(mask), 1);
+            }
+            DUE.is("all else full, mask " + mask, full.rewritable(mask), 1);
         }
-        State.fill(x, 1, 0, 0, 1);
-        x.head(2, 2);
-        DUE.is("the candidate plays no part", x.rewritable(1), 0);
-        State.fill(x, 3, 0, 3, 1);
-        DUE.is("a path of three is not a path of two", x.rewritable(1), 0);
-        x.clear(2);
-        x.drop(3, 0, 2, 3);
-        State.fill(x, 3, 0, 2, 1);
-        String before = State.of(x);
-        DUE.is("the path of two", x.rewritable(1), 1);
-        DUE.holds("rewritable changes nothing", State.of(x).equals(before));
+    }
+
+    private static void noBodies() {
+        DUE.says("With at least one query atom and no view with a body atom in the mask it is NO.");
+        for (int code = 0; code < 25; code++) {
+            ViewRewriter r = new ViewRewriter(1, 3, 1, 8);
+            State.fill(r, 0, 0, code / 5, code % 5);
+            String query = "query atom (" + code / 5 + "," + code % 5 + "), mask ";
+            for (int mask = -8; mask <= 15; mask++) {
+                DUE.is("no bodies, " + query + mask, r.rewritable(mask), 0);
+            }
+            State.fill(r, 4, 0, 0, 0);
+            for (int mask = -8; mask <= 15; mask++) {
+                DUE.is("the second view's body, " + query + mask, r.rewritable(mask), (mask & 2) == 2 ? 1 : 0);
+            }
+        }
+    }
+
+    private static void neverBad() {
+        DUE.says("It never answers BAD.");
+        for (Shape shape : Shape.all()) {
+            ViewRewriter r = shape.make();
+            State.fill(r, 0, 0, 0, 1);
+            State.fill(r, 2 + shape.views, 0, 0, 1);
+            for (int mask : Numbers.wide()) {
+                DUE.is(shape + " rewritable(" + mask + ")", r.rewritable(mask), mask >> shape.views - 1 & 1);
+            }
+        }
+    }
+
+    private static void changesNothing() {
+        DUE.says("It changes nothing.");
+        for (int mask = -1; mask <= 8; mask++) {
+            int asked = mask;
+            Unchanging.ask(DUE, "rewritable(" + mask + ")", r -> r.rewritable(asked));
+        }
     }
 }

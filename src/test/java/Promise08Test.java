@@ -178,18 +178,8 @@ public final class Promise08Test {
 
     private static void candidatePlaysNoPart() {
         DUE.says("The candidate and its head play no part.");
-        for (int most = 0; most <= 8; most++) {
-            ViewRewriter r = Scene.holding(most);
-            String before = State.certain(r);
-            r.clear(1);
-            DUE.holds("without a candidate", State.certain(r).equals(before));
-            for (int code = 0; code < 25; code++) {
-                r.head(code / 5, code % 5);
-                DUE.holds("head " + code / 5 + "," + code % 5, State.certain(r).equals(before));
-            }
-            State.fill(r, 1, 0, 0, 0, 1, 1, 1, 2, 0, 1);
-            DUE.holds("with another candidate", State.certain(r).equals(before));
-        }
+        NoPart.ofSection(DUE, 1, State::certain);
+        NoPart.ofHead(DUE, State::certain);
     }
 
     private static void changesNothing() {

@@ -14,24 +14,9 @@ public final class Promise09Test {
 
     private static void othersPlayNoPart() {
         DUE.says("The loaded rows play no part, nor do the candidate and its head.");
-        for (int most = 0; most <= 8; most++) {
-            ViewRewriter r = Scene.holding(most);
-            String before = State.rewritable(r);
-            r.clear(2);
-            DUE.holds("without rows, " + most, State.rewritable(r).equals(before));
-            for (int i = 0; i < 8; i++) {
-                State.fill(r, 2, i % 3, i / 4, i % 4);
-                DUE.holds("with " + i + " rows", State.rewritable(r).equals(before));
-            }
-            r.clear(1);
-            DUE.holds("without a candidate", State.rewritable(r).equals(before));
-            for (int code = 0; code < 25; code++) {
-                r.head(code / 5, code % 5);
-                DUE.holds("head " + code / 5 + "," + code % 5, State.rewritable(r).equals(before));
-            }
-            State.fill(r, 1, 0, 0, 0, 1, 1, 1, 2, 0, 1);
-            DUE.holds("with another candidate", State.rewritable(r).equals(before));
-        }
+        NoPart.ofSection(DUE, 2, State::rewritable);
+        NoPart.ofSection(DUE, 1, State::rewritable);
+        NoPart.ofHead(DUE, State::rewritable);
         ViewRewriter r = new ViewRewriter(1, 1, 4, 8);
         State.fill(r, 0, 0, 0, 2, 0, 2, 1);
         State.fill(r, 3, 0, 0, 2, 0, 2, 3);

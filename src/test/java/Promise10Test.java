@@ -162,20 +162,8 @@ public final class Promise10Test {
 
     private static void othersPlayNoPart() {
         DUE.says("View bodies play no part, nor does the query.");
-        for (int code = 0; code < 25; code++) {
-            ViewRewriter r = Scene.full();
-            r.head(code / 5, code % 5);
-            String before = State.candidateHas(r);
-            r.clear(0);
-            DUE.holds("without a query", State.candidateHas(r).equals(before));
-            State.fill(r, 0, 2, 0, 0);
-            DUE.holds("with another query", State.candidateHas(r).equals(before));
-            for (int view = 0; view < 3; view++) {
-                r.clear(3 + view);
-                DUE.holds("without the body of view " + view, State.candidateHas(r).equals(before));
-            }
-            State.fill(r, 3, 1, 2, 2);
-            DUE.holds("with another body", State.candidateHas(r).equals(before));
+        for (int section : new int[] {0, 3, 4, 5}) {
+            NoPart.ofSection(DUE, section, State::candidateHas);
         }
         ViewRewriter r = new ViewRewriter(1, 1, 2, 8);
         State.fill(r, 1, 0, 0, 1);

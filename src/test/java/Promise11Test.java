@@ -142,15 +142,7 @@ public final class Promise11Test {
 
     private static void rowsPlayNoPart() {
         DUE.says("The loaded rows play no part.");
-        for (int code = 0; code < 25; code++) {
-            ViewRewriter r = Scene.full();
-            r.head(code / 5, code % 5);
-            int before = r.sound();
-            r.clear(2);
-            DUE.is("without rows", r.sound(), before);
-            State.fill(r, 2, 0, 0, 0, 1, 0, 0, 2, 0, 0);
-            DUE.is("with other rows", r.sound(), before);
-        }
+        NoPart.ofSection(DUE, 2, r -> "sound " + r.sound());
         ViewRewriter r = new ViewRewriter(1, 1, 2, 8);
         State.fill(r, 0, 0, 0, 1);
         State.fill(r, 3, 0, 0, 1);

@@ -91,21 +91,10 @@ public final class Promise13Test {
 
     private static void othersPlayNoPart() {
         DUE.says("The view bodies, the rows, the candidate and its head play no part.");
-        int[][] queries = {{}, {0, 0, 1}, {0, 0, 2, 0, 0, 3}, {0, 0, 2, 1, 2, 1, 0, 0, 3}, {0, 0, 2, 0, 2, 3, 0, 3, 4, 0, 4, 1}};
-        int[] due = {0, 1, 1, 2, 4};
-        for (int i = 0; i < queries.length; i++) {
-            ViewRewriter r = Scene.empty();
-            State.fill(r, 0, queries[i]);
-            DUE.is("query " + i + " alone", r.coreSize(), due[i]);
-            for (int section = 1; section <= 5; section++) {
-                Scene.fill(r, section, Scene.limit(section));
-                DUE.is("query " + i + " with section " + section, r.coreSize(), due[i]);
-            }
-            for (int code = 0; code < 25; code++) {
-                r.head(code / 5, code % 5);
-                DUE.is("query " + i + " with head " + code / 5 + "," + code % 5, r.coreSize(), due[i]);
-            }
+        for (int section = 1; section <= 5; section++) {
+            NoPart.ofSection(DUE, section, r -> "coreSize " + r.coreSize());
         }
+        NoPart.ofHead(DUE, r -> "coreSize " + r.coreSize());
     }
 
     private static void changesNothing() {

@@ -49,9 +49,22 @@ final class Scene {
         return r;
     }
 
+    /** Little in each section, but what is there fits: most questions that reason answer YES. */
+    static ViewRewriter answering(int h0, int h1) {
+        ViewRewriter r = empty();
+        State.fill(r, 0, 0, 0, 1);
+        State.fill(r, 1, 0, h0, h1);
+        State.fill(r, 2, 0, 0, 1, 0, 2, 2, 1, 1, 0);
+        State.fill(r, 3, 0, 0, 1);
+        State.fill(r, 4, 0, 1, 0);
+        r.head(h0, h1);
+        return r;
+    }
+
     /** Objects made anew, from an empty one to full ones; the same ones in the same order each time. */
     static ViewRewriter[] all() {
-        return new ViewRewriter[] {empty(), holding(1), holding(2), holding(3), full(), foldable()};
+        return new ViewRewriter[] {empty(), holding(1), holding(2), holding(3), full(), foldable(), answering(0, 1),
+            answering(2, 2)};
     }
 
     static void fill(ViewRewriter r, int section, int amount) {
